@@ -184,7 +184,7 @@ public final class StonesAlike {
         if (!within(what, 0, 1) || !nameAll(n)) {
             return NONE;
         }
-        return what == 0 ? names.placed : names.tally(roll.men);
+        return what == 0 ? names.placed : names.tally(notebook.bodies, roll.men);
     }
 
     public int who(int n, int body) {
@@ -1356,20 +1356,21 @@ public final class StonesAlike {
         }
 
         /** How many NAMINGS there are: MAN by MAN, in how many ways each set of BODIES can have one. */
-        long tally(int men) {
-            for (int set = 0; set < ways.length; set++) {
+        long tally(int found, int men) {
+            int sets = 1 << Math.min(found, MAX_BODIES);
+            for (int set = 0; set < sets; set++) {
                 ways[set] = 0;
             }
             ways[0] = 1;
             for (int man = 0; man < men; man++) {
                 int takers = takersOf(man);
                 // Downward, so that a smaller set still tells the ways without this MAN.
-                for (int set = ways.length - 1; takers != 0 && set > 0; set--) {
+                for (int set = sets - 1; takers != 0 && set > 0; set--) {
                     ways[set] += waysWith(set & takers, set);
                 }
             }
             long sum = 0;
-            for (int set = 0; set < ways.length; set++) {
+            for (int set = 0; set < sets; set++) {
                 sum += Integer.bitCount(set) == placed ? ways[set] : 0;
             }
             return sum;

@@ -21,6 +21,9 @@ public final class AgainstOracle {
         int runs = args.length > 0 ? Integer.parseInt(args[0]) : 700;
         for (int seed = 0; seed < runs && wrong < 20; seed++) {
             new Run(seed).go();
+            for (int more = 0; more < 8; more++) {
+                new Run(1000000 + 8 * seed + more).goNaming();
+            }
         }
         System.out.println("AgainstOracle: " + runs + " runs, " + asked + " answers, " + wrong + " wrong");
         if (wrong != 0) {
@@ -530,6 +533,29 @@ public final class AgainstOracle {
             }
         }
 
+        /** Few readings of a body each, so that who may be whom makes chains and rings of many shapes. */
+        void goNaming() {
+            giveCharter(new String[] {"may near 7;", "may near 7;sure disc 2;", "may near 1;may disc 2;", "sure boots teeth 1;may disc 1;"}[dice.nextInt(4)]);
+            for (int unit = 0; unit < 3; unit++) {
+                addStand(unit, upTo(15), 0, 99);
+            }
+            for (int i = 3 + upTo(4); i > 0; i--) {
+                addMan(upTo(2), 1000 * upTo(1) + 100 * upTo(1) + 10 * upTo(2) + upTo(2), 5, upTo(2), dice.nextInt(256));
+            }
+            for (int i = 2 + upTo(4); i > 0; i--) {
+                addBody(upTo(15));
+                for (int k = 1 + upTo(2); k > 0; k--) {
+                    int kind = upTo(3);
+                    addReading(o.bodies - 1, kind, upTo(kind == 0 ? 3 : 7), upTo(kind == 3 ? 1 : dice.nextInt(3)));
+                }
+            }
+            known();
+            for (int i = upTo(2); i > 0; i--) {
+                strike();
+                known();
+            }
+        }
+
         /** Men, stands and bodies enough that namings are many from the first on. */
         private void settle() {
             for (int i = 0; i < menMost; i++) {
@@ -706,6 +732,10 @@ public final class AgainstOracle {
             int cell = about(o.w * o.h);
             int from = about(10);
             int to = from + about(5);
+            addStand(unit, cell, from, to);
+        }
+
+        private void addStand(int unit, int cell, int from, int to) {
             boolean good = in(unit, 0, 5) && in(cell, 0, o.w * o.h - 1) && from >= 0 && to >= from && o.stands.size() < 20;
             if (good) {
                 o.stands.add(new Stand(unit, cell, from, to));
@@ -722,6 +752,10 @@ public final class AgainstOracle {
             int day = dice.nextInt(20) == 0 ? -1 : upTo(9);
             int boots = dice.nextInt(20) == 0 ? 10 : upTo(variety);
             int teeth = dice.nextInt(20) == 0 ? 256 : dice.nextInt(256) & dice.nextInt(256);
+            addMan(unit, number, day, boots, teeth);
+        }
+
+        private void addMan(int unit, int number, int day, int boots, int teeth) {
             boolean good = unit < 6 && number < 10000 && day >= 0 && boots < 10 && teeth < 256;
             if (good) {
                 o.men.add(new Man(unit, number, day, boots, teeth));
@@ -730,10 +764,12 @@ public final class AgainstOracle {
         }
 
         private void body() {
-            int cell = about(o.w * o.h);
-            if (o.bodies >= bodiesMost) {
-                return;
+            if (o.bodies < bodiesMost) {
+                addBody(about(o.w * o.h));
             }
+        }
+
+        private void addBody(int cell) {
             boolean good = in(cell, 0, o.w * o.h - 1) && o.notes.size() < 90;
             if (good) {
                 o.notes.add(new Note('b', o.bodies, 0, cell));
@@ -747,15 +783,23 @@ public final class AgainstOracle {
             int body = about(o.bodies);
             int kind = about(4);
             int place = kind == 0 ? about(4) : about(8);
-            int thing = kind == 0 ? place : kind == 1 ? 4 : kind == 2 ? 5 : 6 + place;
+            int thing = thingOf(kind, place);
             int v = about(kind == 3 ? 2 : kind == 1 ? 6 : 10);
             if (!o.men.isEmpty() && in(thing, 0, 13) && dice.nextInt(25) != 0) {
                 v = o.men.get(Math.floorMod(body / 2 + dice.nextInt(15) / 14, o.men.size())).trait(thing);
             }
+            addReading(body, kind, place, v);
+        }
+
+        private int thingOf(int kind, int place) {
+            return kind == 0 ? place : kind == 1 ? 4 : kind == 2 ? 5 : 6 + place;
+        }
+
+        private void addReading(int body, int kind, int place, int v) {
             boolean good = in(body, 0, o.bodies - 1) && in(kind, 0, 3) && v >= 0 && o.notes.size() < 90
                     && v <= new int[] {9, 5, 9, 1}[kind] && (kind != 0 || in(place, 0, 3)) && (kind != 3 || in(place, 0, 7));
             if (good) {
-                o.notes.add(new Note('r', body, thing, v));
+                o.notes.add(new Note('r', body, thingOf(kind, place), v));
             }
             due("read(" + body + ", " + kind + ", " + place + ", " + v + ")", x.read(body, kind, place, v), good ? o.notes.size() - 1 : NONE);
         }
