@@ -275,6 +275,12 @@ public final class BoundariesOfPromises extends Cases {
         due("a charter's", x.fault(0), 1);
         charter(x, "");
         due("a good charter's", x.fault(0), 0);
+        due("its place", x.fault(1), NONE);
+        letter(x, "? ?");
+        due("a letter's", x.fault(0), 1);
+        letter(x, "abc");
+        due("a good letter's", x.fault(0), 0);
+        due("its place", x.fault(1), NONE);
         letter(x, "?");
         due("a letter's", x.fault(0), 1);
         x.land(3, 3);
@@ -543,6 +549,7 @@ public final class BoundariesOfPromises extends Cases {
         due("dug again", x.dig(15), 3);
         x.man(0, 0, 0, 0, 0);
         due("a fourteenth of what is left", x.share(4, 1, 1), 14);
+        due("the note of that number isn't struck", x.who(4, 0), 0);
 
         test("Promise 12", "NONE: no such one");
         for (int cell : new int[] {LEAST, -1, 15, 16, GREATEST}) {

@@ -108,7 +108,7 @@ public final class BoundariesOfTerms extends Cases {
         }
 
         test("Terms 1", "(as four digits, 0 in front)");
-        for (int number : new int[] {0, 7, 42, 305, 9180}) {
+        for (int number : new int[] {0, 7, 42, 305, 999, 1000, 5999, 9180, 9999}) {
             int[] digits = {number / 1000, number / 100 % 10, number / 10 % 10, number % 10};
             for (int place = 0; place < 4; place++) {
                 for (int digit = 0; digit <= 9; digit++) {
@@ -454,6 +454,26 @@ public final class BoundariesOfTerms extends Cases {
         badCharter("may x;", 1, 4);
         badCharter("may boots x;", 1, 10);
         badCharter("wide x;", 1, 5);
+        for (String word : new String[] {"may boots", "sure boots", "letters 5", "lines 5", "wide 5", "recut 5", "bar a"}) {
+            likeWords("", word);
+        }
+        for (String test : new String[] {"disc 1", "button", "boots", "teeth 1", "near 1"}) {
+            likeWords("may ", test);
+            likeWords("sure ", test);
+        }
+    }
+
+    /** A LINE with one word of the language in which each letter is another one, is left out, or stands twice. */
+    private static void likeWords(String front, String rest) {
+        goodCharter(front + rest + ";", 1);
+        int blank = rest.indexOf(' ');
+        int end = blank < 0 ? rest.length() : blank;
+        for (int i = 0; i < end; i++) {
+            char letter = rest.charAt(i);
+            badCharter(front + rest.substring(0, i) + (letter == 'q' ? 'x' : 'q') + rest.substring(i + 1) + ";", 1, front.length());
+            badCharter(front + rest.substring(0, i) + rest.substring(i + 1) + ";", 1, front.length());
+            badCharter(front + rest.substring(0, i) + letter + rest.substring(i) + ";", 1, front.length());
+        }
     }
 
     /** The word in front of it, the bounds of a number, and those next to them. */
@@ -590,6 +610,10 @@ public final class BoundariesOfTerms extends Cases {
             badCharter(line + word + " 999;", 3, line.length());
         }
         goodCharter("letters 5;lines 5;wide 5;recut 5;", 4);
+        badCharter("letters 5;lines 5;wide 5;recut 5;letters 5;", 3, 33);
+        badCharter("recut 5;wide 5;lines 5;letters 5;recut 5;", 3, 33);
+        badCharter("lines 5;wide 5;lines 5;", 3, 15);
+        badCharter("wide 5;recut 5;wide 5;", 3, 15);
 
         test("Terms 2", "a W (at it)");
         badCharter("bar war war;", 3, 8);
@@ -627,6 +651,23 @@ public final class BoundariesOfTerms extends Cases {
         charter(x, "wide 9;");
         due("no proofs", x.fits(2, 0, 0), 1);
         due("no W", letter(x, "war"), 1);
+        // One behind the other: nothing of any charter before, good or with a fault, is left in the next.
+        String[] row = {"may disc 4 button boots teeth 8 near 0;bar war;", "sure near 0;bar god;x", "sure boots;letters 5;", "", "may boots;bar god;",
+                "may disc 3;may disc 4;letters 6;lines 6;wide 6;recut 6;bar a b c d e f g h;?", "may boots;", "wide 9;", "bar war;"};
+        int[] proofs = {1, NONE, 1, 0, 1, NONE, 1, 0, 0};
+        int[] fits = {1, NONE, 3, 1, 2, NONE, 2, 1, 1};
+        int[] letters = {66, NONE, 5, 66, 66, NONE, 66, 66, 66};
+        for (int i = 0; i < row.length; i++) {
+            boolean good = charter(x, row[i]) >= 0;
+            due("charter '" + row[i] + "'", good, proofs[i] != NONE);
+            if (good) {
+                due("proofs of '" + row[i] + "'", x.count(6), proofs[i]);
+                due("what '" + row[i] + "' proves", x.fits(2, 0, 0), fits[i]);
+                due("letters of '" + row[i] + "'", x.count(7), letters[i]);
+                due("war under '" + row[i] + "'", letter(x, "war"), row[i].contains("war") ? NONE : 1);
+                due("god under '" + row[i] + "'", letter(x, "god"), row[i].contains("god") ? NONE : 1);
+            }
+        }
     }
 
     /** A man of number 1234, unit 2, boots 5, teeth 10100101, and a body at cell 0. */
@@ -764,6 +805,19 @@ public final class BoundariesOfTerms extends Cases {
         one.read(0, 2, 0, 5);
         due("another whom it may be, by may alone, doesn't count", one.fits(2, 0, 0), 3);
         due("it may be the other", one.fits(2, 0, 1), 2);
+        StonesAlike tenth = ruled("sure boots;");
+        tenth.man(0, 0, 0, 1, 0);
+        tenth.man(0, 0, 0, 2, 0);
+        tenth.man(0, 0, 0, 1, 0);
+        for (int i = 0; i < 10; i++) {
+            tenth.body(0);
+            tenth.read(i, 2, 0, 1 + i % 2);
+        }
+        for (int i = 0; i < 10; i++) {
+            due("body " + i + ", the first man", tenth.fits(20, i, 0), i % 2 == 0 ? 2 : 0);
+            due("body " + i + ", the second man", tenth.fits(20, i, 1), i % 2 == 0 ? 0 : 3);
+            due("body " + i + ", the third man", tenth.fits(20, i, 2), i % 2 == 0 ? 2 : 0);
+        }
     }
 
     // Terms, part 3.
@@ -872,6 +926,86 @@ public final class BoundariesOfTerms extends Cases {
         due("one man in some namings, nobody in others: not named", last.named(4, 0), NONE);
         due("nor the other", last.named(4, 1), NONE);
         due("two men: not named", full.named(10, 0), NONE);
+        chains();
+    }
+
+    /** Men in a row: by the first digit 0 and 1, 2 and 3 .. are alike, by the second 1 and 2, 3 and 4 .. */
+    private static void manInRow(StonesAlike x, int i) {
+        x.man(0, i / 2 * 1000 + (i + 1) / 2 * 100, 0, 0, 0);
+    }
+
+    /** A body that may be two neighbours in the row: i and i + 1. */
+    private static void bodyInRow(StonesAlike x, int i) {
+        x.read(x.body(0), 0, i % 2, (i + 1) / 2);
+    }
+
+    private static void chains() {
+        test("Terms 3", "as many BODIES as can be then have one. WHO of a BODY: all MEN that it has in some NAMING");
+        StonesAlike x = ruled("may disc 1;");
+        for (int i = 0; i < 10; i++) {
+            manInRow(x, i);
+        }
+        for (int i = 0; i < 9; i++) {
+            bodyInRow(x, i);
+        }
+        due("nine bodies, ten men in a row", x.namings(18, 0), 9);
+        due("anyone can be left", x.namings(18, 1), 10);
+        for (int i = 0; i < 9; i++) {
+            due("who is body " + i, x.who(18, i), 3 << i);
+            due("body " + i + " isn't named", x.named(18, i), NONE);
+        }
+        due("all are missing", x.missing(18), 1023);
+        x.body(0);
+        for (int one = 0; one < 10; one++) {
+            x.read(9, 0, 0, one / 2);
+            x.read(9, 0, 1, (one + 1) / 2);
+            int n = x.count(3);
+            due("the tenth is man " + one, x.named(n, 9), one);
+            due("and so all are named", x.namings(n, 1), 1);
+            for (int i = 0; i < 9; i++) {
+                due("body " + i + " if the tenth is man " + one, x.named(n, i), i < one ? i : i + 1);
+                due("who it is", x.who(n, i), 1 << (i < one ? i : i + 1));
+            }
+        }
+        StonesAlike y = ruled("may disc 1;");
+        for (int i = 1; i < 10; i++) {
+            manInRow(y, i);
+        }
+        for (int i = 0; i < 10; i++) {
+            bodyInRow(y, i);
+        }
+        due("ten bodies, nine men in a row", y.namings(20, 0), 9);
+        due("any body can be left", y.namings(20, 1), 10);
+        for (int i = 0; i < 10; i++) {
+            due("who is body " + i, y.who(20, i), (3 << i >> 1) & 511);
+            due("body " + i + " isn't named", y.named(20, i), NONE);
+        }
+        parts();
+    }
+
+    /** Where some men are left over and some bodies are: neither reaches into the other's part. */
+    private static void parts() {
+        StonesAlike x = ruled("may boots;");
+        int[] boots = {1, 1, 1, 2, 3, 3};
+        for (int b : boots) {
+            x.man(0, 0, 0, b, 0);
+        }
+        int[] read = {1, 1, 2, 2, 2, 3, 3};
+        for (int r : read) {
+            x.read(x.body(0), 2, 0, r);
+        }
+        int[] who = {7, 7, 8, 8, 8, 48, 48};
+        due("two of three, one of one, two of two", x.namings(14, 0), 5);
+        due("six by three by two", x.namings(14, 1), 36);
+        for (int i = 0; i < who.length; i++) {
+            due("who is body " + i, x.who(14, i), who[i]);
+            due("body " + i + " isn't named", x.named(14, i), NONE);
+        }
+        x.read(5, 0, 3, 0);
+        x.man(0, 1, 0, 3, 0);
+        due("one more man of boots 3, unlike one of these bodies", x.who(15, 5), 48);
+        due("like the other", x.who(15, 6), 48 + 64);
+        due("six by three by four", x.namings(15, 1), 72);
     }
 
     /** In how many ways so many can be taken, one behind the other, of so many. */
@@ -1002,6 +1136,25 @@ public final class BoundariesOfTerms extends Cases {
         y.strike(0);
         share(y, 13, 12, 1, 1);
         share(y, 13, 6, 0, 1);
+
+        StonesAlike kinds = ruled("");
+        kinds.man(0, 0, 0, 0, 0);
+        kinds.body(15);
+        kinds.body(14);
+        kinds.read(0, 1, 0, 0);
+        kinds.read(1, 1, 0, 0);
+        for (int cell = 0; cell < 16; cell++) {
+            share(kinds, 4, cell, cell < 14 ? 1 : 0, cell < 14 ? 14 : 1);
+        }
+        kinds.dig(0);
+        kinds.dig(1);
+        kinds.dig(3);
+        for (int cell = 0; cell < 16; cell++) {
+            boolean can = cell == 2 || cell > 3 && cell < 14;
+            share(kinds, 7, cell, can ? 1 : 0, can ? 11 : 1);
+        }
+        due("a cell that is dug strikes no note: body 0", kinds.who(7, 0), 0);
+        due("a cell that is dug strikes no note: body 1", kinds.who(7, 1), 0);
 
         test("Terms 3", "(each such one, if his UNIT was nowhere)");
         StonesAlike z = new StonesAlike();
@@ -1193,6 +1346,26 @@ public final class BoundariesOfTerms extends Cases {
             goodLetter(bars, text, text.length());
         }
         goodLetter("", "war", 3);
+        String[] words = new String[56];
+        int many = 0;
+        for (String first : "a b c m n y z".split(" ")) {
+            words[many++] = first;
+            for (String second : "a b c m n y z".split(" ")) {
+                words[many++] = first + second;
+            }
+        }
+        for (String barred : words) {
+            StonesAlike x = ruled("bar " + barred + ";");
+            for (String word : words) {
+                due("bar " + barred + ", letter " + word, letter(x, word), word.equals(barred) ? NONE : 1);
+            }
+        }
+        StonesAlike y = ruled("bar ab ba abc abcd abcdefgh;");
+        for (char word = 'a'; word <= 'z'; word++) {
+            due("letter " + word, letter(y, "" + word), 1);
+            due("letter abcdefg" + word, letter(y, "abcdefg" + word), word == 'h' ? NONE : 1);
+            due("letter " + word + "bcdefgh", letter(y, word + "bcdefgh"), word == 'a' ? NONE : 1);
+        }
     }
 
     private static void wall() {
