@@ -159,6 +159,13 @@ public final class BoundariesOfPromises extends Cases {
         due("up to a digit: wide 1", x.charter(6), NONE);
         due("a number beyond what is said", x.fault(0), 2);
         due("at it", x.fault(1), 5);
+        feedText(x, "bar ab;");
+        due("up to a letter: bar a, and no end", x.charter(5), NONE);
+        due("more must come", x.fault(0), 1);
+        due("at the length", x.fault(1), 5);
+        feedText(x, "may boots;");
+        due("up to a letter: ma", x.charter(2), NONE);
+        due("another word", x.fault(1), 0);
         String full = "bar a;" + "\n".repeat(393) + ";";
         due("all 400", charter(x, full), NONE);
         due("the last of them", x.fault(1), 399);

@@ -941,70 +941,114 @@ public final class BoundariesOfTerms extends Cases {
 
     private static void chains() {
         test("Terms 3", "as many BODIES as can be then have one. WHO of a BODY: all MEN that it has in some NAMING");
-        StonesAlike x = ruled("may disc 1;");
-        for (int i = 0; i < 10; i++) {
-            manInRow(x, i);
+        int[][] orders = {{0, 1, 2, 3, 4, 5, 6, 7, 8, 9}, {9, 8, 7, 6, 5, 4, 3, 2, 1, 0},
+                {3, 8, 0, 5, 9, 1, 7, 2, 6, 4}, {5, 0, 7, 9, 2, 4, 1, 8, 3, 6}};
+        for (int[] men : orders) {
+            for (int[] bodies : orders) {
+                oneManTooMany(men, bodies);
+                oneBodyTooMany(men, bodies);
+            }
         }
-        for (int i = 0; i < 9; i++) {
-            bodyInRow(x, i);
+        parts(new int[] {0, 1, 2, 3, 4, 5, 6});
+        parts(new int[] {6, 5, 4, 3, 2, 1, 0});
+        parts(new int[] {2, 5, 0, 3, 1, 6, 4});
+    }
+
+    private static int placeOf(int value, int[] order) {
+        int place = 0;
+        while (place < order.length && order[place] != value) {
+            place++;
+        }
+        return place;
+    }
+
+    /** Ten men in a row, and nine bodies between them; men and bodies are told in any order. */
+    private static void oneManTooMany(int[] men, int[] bodies) {
+        StonesAlike x = ruled("may disc 1;");
+        for (int m : men) {
+            manInRow(x, m);
+        }
+        int[] nine = new int[9];
+        int many = 0;
+        for (int b : bodies) {
+            if (b < 9) {
+                nine[many++] = b;
+                bodyInRow(x, b);
+            }
         }
         due("nine bodies, ten men in a row", x.namings(18, 0), 9);
         due("anyone can be left", x.namings(18, 1), 10);
         for (int i = 0; i < 9; i++) {
-            due("who is body " + i, x.who(18, i), 3 << i);
+            due("who is body " + i, x.who(18, i), 1 << placeOf(nine[i], men) | 1 << placeOf(nine[i] + 1, men));
             due("body " + i + " isn't named", x.named(18, i), NONE);
         }
         due("all are missing", x.missing(18), 1023);
         x.body(0);
-        for (int one = 0; one < 10; one++) {
+        for (int one = 0; one < 10; one += 3) {
             x.read(9, 0, 0, one / 2);
             x.read(9, 0, 1, (one + 1) / 2);
             int n = x.count(3);
-            due("the tenth is man " + one, x.named(n, 9), one);
+            due("the tenth is man " + one + " of the row", x.named(n, 9), placeOf(one, men));
             due("and so all are named", x.namings(n, 1), 1);
+            due("nobody is missing", x.missing(n), 0);
             for (int i = 0; i < 9; i++) {
-                due("body " + i + " if the tenth is man " + one, x.named(n, i), i < one ? i : i + 1);
-                due("who it is", x.who(n, i), 1 << (i < one ? i : i + 1));
+                int man = placeOf(nine[i] < one ? nine[i] : nine[i] + 1, men);
+                due("body " + i + " if the tenth is man " + one + " of the row", x.named(n, i), man);
+                due("who it is", x.who(n, i), 1 << man);
             }
         }
-        StonesAlike y = ruled("may disc 1;");
-        for (int i = 1; i < 10; i++) {
-            manInRow(y, i);
+    }
+
+    /** Nine men in a row, and ten bodies between them and at its ends. */
+    private static void oneBodyTooMany(int[] men, int[] bodies) {
+        StonesAlike x = ruled("may disc 1;");
+        int[] nine = new int[9];
+        int many = 0;
+        for (int m : men) {
+            if (m > 0) {
+                nine[many++] = m;
+                manInRow(x, m);
+            }
         }
+        for (int b : bodies) {
+            bodyInRow(x, b);
+        }
+        due("ten bodies, nine men in a row", x.namings(20, 0), 9);
+        due("any body can be left", x.namings(20, 1), 10);
         for (int i = 0; i < 10; i++) {
-            bodyInRow(y, i);
+            int left = bodies[i] > 0 ? 1 << placeOf(bodies[i], nine) : 0;
+            int right = bodies[i] < 9 ? 1 << placeOf(bodies[i] + 1, nine) : 0;
+            due("who is body " + i, x.who(20, i), left | right);
+            due("body " + i + " isn't named", x.named(20, i), NONE);
         }
-        due("ten bodies, nine men in a row", y.namings(20, 0), 9);
-        due("any body can be left", y.namings(20, 1), 10);
-        for (int i = 0; i < 10; i++) {
-            due("who is body " + i, y.who(20, i), (3 << i >> 1) & 511);
-            due("body " + i + " isn't named", y.named(20, i), NONE);
-        }
-        parts();
+        due("all are missing", x.missing(20), 511);
     }
 
     /** Where some men are left over and some bodies are: neither reaches into the other's part. */
-    private static void parts() {
+    private static void parts(int[] order) {
         StonesAlike x = ruled("may boots;");
         int[] boots = {1, 1, 1, 2, 3, 3};
-        for (int b : boots) {
-            x.man(0, 0, 0, b, 0);
-        }
         int[] read = {1, 1, 2, 2, 2, 3, 3};
-        for (int r : read) {
-            x.read(x.body(0), 2, 0, r);
+        int[] men = {0, 0, 0, 0};
+        for (int i : order) {
+            if (i < boots.length) {
+                men[boots[i]] |= 1 << x.man(0, 0, 0, boots[i], 0);
+            }
         }
-        int[] who = {7, 7, 8, 8, 8, 48, 48};
+        for (int i : order) {
+            x.read(x.body(0), 2, 0, read[i]);
+        }
         due("two of three, one of one, two of two", x.namings(14, 0), 5);
         due("six by three by two", x.namings(14, 1), 36);
-        for (int i = 0; i < who.length; i++) {
-            due("who is body " + i, x.who(14, i), who[i]);
+        for (int i = 0; i < order.length; i++) {
+            due("who is body " + i, x.who(14, i), men[read[order[i]]]);
             due("body " + i + " isn't named", x.named(14, i), NONE);
         }
-        x.read(5, 0, 3, 0);
+        due("all are missing", x.missing(14), 63);
+        x.read(placeOf(5, order), 0, 3, 0);
         x.man(0, 1, 0, 3, 0);
-        due("one more man of boots 3, unlike one of these bodies", x.who(15, 5), 48);
-        due("like the other", x.who(15, 6), 48 + 64);
+        due("one more man of boots 3, unlike one of these bodies", x.who(15, placeOf(5, order)), men[3]);
+        due("like the other", x.who(15, placeOf(6, order)), men[3] | 64);
         due("six by three by four", x.namings(15, 1), 72);
     }
 
@@ -1082,6 +1126,15 @@ public final class BoundariesOfTerms extends Cases {
         }
         who.body(0);
         due("only men of who are looked at", who.next(1, 0), 3);
+        StonesAlike alike = ruled("may near 7;");
+        alike.stand(0, 0, 0, 0);
+        for (int i = 0; i < 14; i++) {
+            alike.man(0, 0, 0, 0, 0);
+        }
+        alike.body(0);
+        due("all fourteen alike in all: the first thing", alike.next(1, 0), 0);
+        alike.read(0, 0, 0, 0);
+        due("and then the second", alike.next(2, 0), 1);
 
         test("Terms 3", "are fewest; of several the least");
         StonesAlike several = ruled("may near 7;");
