@@ -1259,6 +1259,36 @@ public final class BoundariesOfTerms extends Cases {
         share(v, 3, 3, 14, 1);
         v.dig(3);
         share(v, 4, 3, 0, 1);
+        longShare();
+    }
+
+    /** A unit that left cell by cell, and a man of it for some days: a lower number greater than any int. */
+    private static void longShare() {
+        int[] cellsOfDay = {19, 17, 16, 13, 11, 9, 7, 5};
+        StonesAlike x = new StonesAlike();
+        x.land(5, 5);
+        for (int cell = 0; cell < 19; cell++) {
+            int last = 0;
+            for (int day = 0; day < cellsOfDay.length; day++) {
+                last = cellsOfDay[day] > cell ? day : last;
+            }
+            x.stand(0, cell, 0, last);
+        }
+        x.dig(23);
+        x.dig(24);
+        x.man(1, 0, 0, 0, 0);
+        long lower = 23;
+        long upper = 1;
+        for (int day = 0; day < cellsOfDay.length; day++) {
+            x.man(0, 0, day, 0, 0);
+            upper = upper * cellsOfDay[day] + lower;
+            lower *= cellsOfDay[day];
+            share(x, 2, 0, upper, lower);
+        }
+        due("the lower number in the end", lower, 5354228880L);
+        share(x, 2, 18, 19 + 23, 19 * 23);
+        share(x, 2, 22, 1, 23);
+        share(x, 2, 23, 0, 1);
     }
 
     private static void share(StonesAlike x, int n, int cell, long upper, long lower) {
