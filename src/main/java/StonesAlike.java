@@ -683,7 +683,12 @@ public final class StonesAlike {
                 return testsTold;
             }
             advance();
-            draft.addTest(test.slot, test.high == 0 ? 1 : takeNumber(test));
+            int number = 1;
+            if (test.high > 0) {
+                number = numberBehind(test);
+                advance();
+            }
+            draft.addTest(test.slot, number);
             return testsTold | (1 << test.slot);
         }
 
@@ -694,7 +699,8 @@ public final class StonesAlike {
             }
             settingsTold |= 1 << head.slot;
             advance();
-            draft.settings[head.slot] = takeNumber(head);
+            draft.settings[head.slot] = numberBehind(head);
+            advance();
         }
 
         private void parseBars() {
@@ -719,7 +725,7 @@ public final class StonesAlike {
             }
         }
 
-        private int takeNumber(Word word) {
+        private int numberBehind(Word word) {
             if (kind != NUMBER) {
                 refuse(1);
                 return 0;
@@ -731,7 +737,6 @@ public final class StonesAlike {
             if (!within(value, word.low, word.high)) {
                 refuse(2);
             }
-            advance();
             return value;
         }
 
